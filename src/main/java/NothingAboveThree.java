@@ -53,6 +53,7 @@ public final class NothingAboveThree {
 
     private static final int FIELDS = 6;
     private static final int BROTHERS = 4;
+    private static final int MOST_WORTH = 99;
     private static final int SIDE = 6;
     private static final int GOODS = 6;
     private static final int GREATEST_DIVISOR = 9;
@@ -417,7 +418,7 @@ public final class NothingAboveThree {
     // ---- fields, tables, goods
 
     public int field(int f, int brother, int v) throws IllegalArgumentException {
-        refuseIf(isNot(f, 0, FIELDS - 1) || isNot(brother, 0, BROTHERS - 1) || isNot(v, 0, 99));
+        refuseIf(isNot(f, 0, FIELDS - 1) || isNot(brother, 0, BROTHERS - 1) || isNot(v, 0, MOST_WORTH));
         int cell = f * BROTHERS + brother;
         int before = state.worth[cell];
         state.worth[cell] = v;
@@ -733,40 +734,25 @@ public final class NothingAboveThree {
                 start++;
             }
             behind = start;
-            if (start >= end) {
-                kind = AT_END;
-            } else if (isDigit(bytes[start])) {
-                kind = NUMBER;
-                passDigits();
-            } else if (isLetter(bytes[start])) {
-                kind = WORD;
-                passLetters();
-            } else {
-                kind = SIGN;
-                behind = start + 1;
-            }
-        }
-
-        private void passDigits() {
             number = 0;
-            while (behind < end && isDigit(bytes[behind])) {
-                number = Math.min(TOO_GREAT, 10 * number + bytes[behind] - '0');
+            kind = start < end ? kindOf(bytes[start]) : AT_END;
+            if (kind == SIGN) {
+                behind++;
+                return;
+            }
+            while (behind < end && kindOf(bytes[behind]) == kind) {
+                if (kind == NUMBER) {
+                    number = Math.min(TOO_GREAT, 10 * number + bytes[behind] - '0');
+                }
                 behind++;
             }
         }
 
-        private void passLetters() {
-            while (behind < end && isLetter(bytes[behind])) {
-                behind++;
+        private static int kindOf(int sign) {
+            if (sign >= '0' && sign <= '9') {
+                return NUMBER;
             }
-        }
-
-        private static boolean isDigit(int sign) {
-            return sign >= '0' && sign <= '9';
-        }
-
-        private static boolean isLetter(int sign) {
-            return sign >= 'a' && sign <= 'z';
+            return sign >= 'a' && sign <= 'z' ? WORD : SIGN;
         }
 
         /** Always false, so that a reader can hand it on. */
@@ -1458,7 +1444,7 @@ public final class NothingAboveThree {
         }
 
         private static boolean isChanged(int[] row, int i, int by, int most) {
-            if (isNot(i, 0, row.length - 1) || isNot(row[i] + by, 0, most)) {
+            if (i < 0 || i >= row.length || row[i] + by < 0 || row[i] + by > most) {
                 return false;
             }
             row[i] += by;
@@ -1763,7 +1749,7 @@ public final class NothingAboveThree {
         }
 
         int leastSpread(int[] worth, int fields, int brothers) {
-            int least = Integer.MAX_VALUE;
+            int least = fields * MOST_WORTH;
             int sharings = sharingsOf(fields);
             for (int s = 0; s < sharings; s++) {
                 if (divide(worth, fields, brothers, s)) {
