@@ -69,6 +69,8 @@ public final class RightTest {
         Check.due(Check.STATE, "least", () -> x.least(0, 0, 2, 9));
         Check.valley(x, "heaps 12;");
         Check.due(Check.ARGUMENT, "four heaps", () -> x.right(0, 0, 4, 1));
+        Check.due(Check.ARGUMENT, "four heaps", () -> x.least(0, 0, 4, 1));
+        Check.due(Check.ARGUMENT, "four heaps", () -> x.kept(0, 0, 0, 4, 1));
         Check.due(1000, "right", () -> x.right(0, 0, 3, 9));
     }
 

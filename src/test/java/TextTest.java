@@ -166,6 +166,11 @@ public final class TextTest {
         way("empty 1", -9, 7);
         way("put x;", -9, 4);
         way("puts 1;", -9, 0);
+        way("putz 1;", -9, 0);
+        way("put{1;", -9, 3);
+        way("put`1;", -9, 3);
+        way("put /;", -9, 4);
+        way("put :;", -9, 4);
         way("end", -9, 3);
         way("end;;", -9, 4);
         way("end;".repeat(24) + " end", -7, 97);
