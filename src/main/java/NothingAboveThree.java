@@ -105,20 +105,24 @@ public final class NothingAboveThree {
     public int way(int n) throws IllegalArgumentException {
         refuseIf(isNot(n, 0, tape.length));
         tape.begin(n);
-        if (!wayReader.reads(tape)) {
-            return tape.faultAnswer();
+        boolean isWay = wayReader.reads(tape);
+        // with 6 there the text is read all the same: fault() tells of the latest one
+        if (wayCount >= TEXTS_ROOM) {
+            return NONE;
         }
-        return adopt(wayReader.read);
+        return isWay ? adopt(wayReader.read) : tape.faultAnswer();
     }
 
     public int task(int n) throws IllegalArgumentException {
         refuseIf(isNot(n, 0, tape.length));
         tape.begin(n);
-        if (!taskReader.reads(tape)) {
-            return tape.faultAnswer();
-        }
+        boolean isTask = taskReader.reads(tape);
+        // as of a WAY
         if (taskCount >= TEXTS_ROOM) {
             return NONE;
+        }
+        if (!isTask) {
+            return tape.faultAnswer();
         }
         tasks[taskCount] = taskReader.made();
         taskCount++;

