@@ -105,23 +105,21 @@ public final class NothingAboveThree {
     public int way(int n) throws IllegalArgumentException {
         refuseIf(isNot(n, 0, tape.length));
         tape.begin(n);
-        boolean isWay = wayReader.reads(tape);
-        // with 6 there the text is read all the same: fault() tells of the latest one
+        // with 6 there the text is not read: it is the latest one, and without a FAULT
         if (wayCount >= TEXTS_ROOM) {
             return NONE;
         }
-        return isWay ? adopt(wayReader.read) : tape.faultAnswer();
+        return wayReader.reads(tape) ? adopt(wayReader.read) : tape.faultAnswer();
     }
 
     public int task(int n) throws IllegalArgumentException {
         refuseIf(isNot(n, 0, tape.length));
         tape.begin(n);
-        boolean isTask = taskReader.reads(tape);
         // as of a WAY
         if (taskCount >= TEXTS_ROOM) {
             return NONE;
         }
-        if (!isTask) {
+        if (!taskReader.reads(tape)) {
             return tape.faultAnswer();
         }
         tasks[taskCount] = taskReader.made();

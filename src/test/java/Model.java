@@ -168,6 +168,9 @@ final class Model {
 
     int way(int n) {
         take(n);
+        if (ways.size() == 6) {
+            return -1;
+        }
         try {
             List<int[]> acts = new ArrayList<>();
             while (acts.isEmpty() || !peek().isEmpty()) {
@@ -194,7 +197,7 @@ final class Model {
             return shelve(acts.toArray(new int[0][]));
         } catch (Fault f) {
             fault = f.place;
-            return ways.size() == 6 ? -1 : f.kind - 10;
+            return f.kind - 10;
         }
     }
 
@@ -208,6 +211,9 @@ final class Model {
 
     int task(int n) {
         take(n);
+        if (tasks.size() == 6) {
+            return -1;
+        }
         try {
             List<Value> all = new ArrayList<>();
             while (all.isEmpty() || !peek().isEmpty()) {
@@ -223,14 +229,11 @@ final class Model {
                 all.add(either());
                 expect(";");
             }
-            if (tasks.size() == 6) {
-                return -1;
-            }
             tasks.add(all);
             return tasks.size() - 1;
         } catch (Fault f) {
             fault = f.place;
-            return tasks.size() == 6 ? -1 : f.kind - 10;
+            return f.kind - 10;
         }
     }
 

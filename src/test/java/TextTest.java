@@ -286,31 +286,37 @@ public final class TextTest {
             Check.due(i, "task " + i, () -> Check.task(x, "1=1;"));
         }
         String[] wayTexts = {"end;", "", "   ", "end", "put 12;", "move 1 1;", "end;".repeat(25), "?", "1=1;"};
-        int[] wayFaults = {-1, 0, 3, 3, 4, 7, 96, 0, 0};
-        for (int i = 0; i < wayTexts.length; i++) {
-            String text = wayTexts[i];
+        for (String text : wayTexts) {
+            faultyValley(x);
             Check.due(-1, "a seventh way, whatever the text: " + text, () -> Check.way(x, text));
-            Check.due(wayFaults[i], "fault of the latest text: " + text, () -> x.fault());
+            Check.due(-1, "no fault where -1 is answered: " + text, () -> x.fault());
             Check.due(0, "the tape is empty", () -> x.count(3));
         }
         String[] taskTexts = {"1=1;", "", " ", "1=1", "at 24=1;", "1=1;".repeat(13), "(((((((1", "]", "end;"};
-        int[] taskFaults = {-1, 0, 1, 3, 3, 48, 6, 0, 0};
-        for (int i = 0; i < taskTexts.length; i++) {
-            String text = taskTexts[i];
+        for (String text : taskTexts) {
+            faultyValley(x);
             Check.due(-1, "a seventh task, whatever the text: " + text, () -> Check.task(x, text));
-            Check.due(taskFaults[i], "fault of the latest text: " + text, () -> x.fault());
+            Check.due(-1, "no fault where -1 is answered: " + text, () -> x.fault());
             Check.due(0, "the tape is empty", () -> x.count(3));
         }
+        faultyValley(x);
         Check.feed(x, "end;");
         Check.due(Check.ARGUMENT, "no such n, with six there", () -> x.way(21));
         Check.due(Check.ARGUMENT, "no such n, with six there", () -> x.task(-1));
         Check.due(20, "the tape stays", () -> x.count(3));
-        Check.due(0, "the fault stays", () -> x.fault());
+        Check.due(6, "the fault stays", () -> x.fault());
         Check.due(2, "two were refused", () -> x.status(2));
         Check.due(6, "ways", () -> x.told(6));
         Check.due(6, "tasks", () -> x.told(7));
         Check.due(11, "the sixth way is as it was", () -> x.act(5, 0, 0));
         Check.due(-9, "a valley has its fault all the same", () -> x.valley(20));
+        Check.due(0, "the place of the valley's fault", () -> x.fault());
+    }
+
+    /** A FAULT of an earlier text, which a later text without one must not leave to be told. */
+    private static void faultyValley(NothingAboveThree x) {
+        Check.due(-8, "a valley's fault with six ways and tasks there", () -> Check.valley(x, "heaps 13;"));
+        Check.due(6, "its place", () -> x.fault());
     }
 
     /** One shelf that is full says nothing of the other one. */
@@ -321,15 +327,18 @@ public final class TextTest {
             Check.way(x, "end;");
             Check.task(y, "1=1;");
         }
-        Check.due(-9, "a task's fault beside six ways", () -> Check.task(x, "end;"));
+        Check.due(-9, "a task's fault beside six ways", () -> Check.task(x, "1=end;"));
+        Check.due(2, "its place", () -> x.fault());
         Check.due(0, "a task beside six ways", () -> Check.task(x, "1=1;"));
-        Check.due(-9, "a way's fault beside six tasks", () -> Check.way(y, "1=1;"));
+        Check.due(-9, "a way's fault beside six tasks", () -> Check.way(y, "end 1=1;"));
+        Check.due(4, "its place", () -> y.fault());
         Check.due(0, "a way beside six tasks", () -> Check.way(y, "end;"));
         for (int i = 1; i < 6; i++) {
             y.keep(0, 1, 0, 1, 1);
         }
         Check.due(6, "ways of which five were kept", () -> y.told(6));
-        Check.due(-1, "a seventh way, whatever the text", () -> Check.way(y, "1=1;"));
+        Check.due(-1, "a seventh way, whatever the text", () -> Check.way(y, "end 1=1;"));
+        Check.due(-1, "without a fault", () -> y.fault());
     }
 
     private static void acts() {
