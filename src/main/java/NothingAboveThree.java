@@ -757,7 +757,7 @@ public final class NothingAboveThree {
             return sign >= 'a' && sign <= 'z' ? WORD : SIGN;
         }
 
-        /** Always false, so that a reader can hand it on. */
+        /** Always false, so that a reader can hand it on: none answers false without a FAULT. */
         boolean refuse(int fault) {
             faultKind = fault;
             faultPlace = start;
@@ -908,12 +908,12 @@ public final class NothingAboveThree {
                     return false;
                 }
             }
-            return false;
+            return tape.refuse(CANNOT_STAND);
         }
 
         private boolean readsNumbers(Tape tape, int kind) {
             if (isNot(kind, 0, FIRST_MOST.length - 1) || isNot(kind, 0, SECOND_MOST.length - 1)) {
-                return false;
+                return tape.refuse(CANNOT_STAND);
             }
             int first = NONE;
             int second = NONE;
@@ -1056,7 +1056,7 @@ public final class NothingAboveThree {
                     return false;
                 }
             }
-            return false;
+            return tape.refuse(CANNOT_STAND);
         }
 
         /** Of FAULTS at one byte the least counts, so what stands there is looked at first. */
@@ -1068,16 +1068,19 @@ public final class NothingAboveThree {
             return begins ? TOO_MANY : CANNOT_STAND;
         }
 
-        /** One C with its semicolon. Each turn takes a byte at least, so the bound is never met. */
+        /**
+         * One C with its semicolon. Each turn takes a byte at least, and one more than there are
+         * bytes finds that a text that fills the TAPE ends too early.
+         */
         private boolean readsCondition(Tape tape) {
             ended = false;
             awaitValue(true);
-            for (int i = 0; i < TAPE_ROOM && !ended; i++) {
+            for (int i = 0; i <= TAPE_ROOM && !ended; i++) {
                 if (lacksValue ? !readsValue(tape) : !readsSign(tape)) {
                     return false;
                 }
             }
-            return ended;
+            return ended || tape.refuse(CANNOT_STAND);
         }
 
         private void awaitValue(boolean ofNewBasic) {

@@ -27,6 +27,7 @@ public final class ModelTest {
             for (int i = 0; i < 120; i++) {
                 test.call();
             }
+            new ModelTest(seed).packed();
         }
         Check.end();
     }
@@ -172,6 +173,48 @@ public final class ModelTest {
             text.append(many > 4 ? "1=1" : below(2) == 0 ? simple() : condition(below(9) == 0 ? 5 : 2)).append(';');
         }
         return text.toString();
+    }
+
+    /** Texts that fill the TAPE, or nearly so, mostly of tokens of one byte; cut where they may be. */
+    private void packed() {
+        for (int i = 0; i < 18; i++) {
+            StringBuilder text = new StringBuilder();
+            int length = 400 - below(3) * below(3);
+            while (text.length() < length) {
+                text.append(below(3) != 0 ? packedSum() : below(2) == 0 ? taskText() : "1=1;");
+            }
+            text.setLength(length);
+            String tail = new String[] {"", "=1;", ";", "=", " ", "+", "1", "(", ")=1;"}[below(9)];
+            String whole = text.substring(0, length - tail.length()) + tail;
+            feed(whole);
+            same("text " + whole, () -> x.task(length), () -> model.task(length));
+            same("fault of " + whole, () -> x.fault(), () -> model.fault());
+        }
+        feed("end;");
+        same("way", () -> x.way(4), () -> model.way(4));
+        for (int i = 0; i < 6; i++) {
+            int which = i;
+            same("holds", () -> x.holds(0, which), () -> model.holds(0, which));
+        }
+    }
+
+    private String packedSum() {
+        StringBuilder text = new StringBuilder();
+        int opened = 0;
+        int left = 1 + below(200);
+        for (int i = 0; i < left; i++) {
+            while (opened < 6 && below(9) == 0) {
+                text.append('(');
+                opened++;
+            }
+            text.append((char) ('0' + below(10)));
+            while (opened > 0 && below(9) == 0) {
+                text.append(')');
+                opened--;
+            }
+            text.append("+-*/".charAt(below(4)));
+        }
+        return text.append('1').append(")".repeat(opened)).append(below(2) == 0 ? "=" : "<1;").toString();
     }
 
     private void text(int which) {

@@ -9,6 +9,7 @@ public final class TextTest {
         wayFaults();
         tasks();
         taskFaults();
+        fullTapes();
         fullShelves();
         oneFullShelf();
         acts();
@@ -275,6 +276,51 @@ public final class TextTest {
         task("1=1;".repeat(12) + "end", -9, 48);
         task("1=1;".repeat(12) + ";", -9, 48);
         task("1=1;".repeat(12) + ")", -9, 48);
+    }
+
+    /** Texts of 400 bytes, which fill the TAPE: the edge is their end. */
+    private static void fullTapes() {
+        task("1+".repeat(200), -9, 400);
+        task("1*".repeat(200), -9, 400);
+        task("(" + "1-".repeat(199) + "1", -9, 400);
+        task("((((((" + "1/".repeat(197), -9, 400);
+        task("(((((" + "1+".repeat(197) + "1", -9, 400);
+        task("[[[[[[" + "1+".repeat(197), -9, 400);
+        task("1=1;".repeat(11) + "1+".repeat(178), -9, 400);
+        task("1=" + "1+".repeat(199), -9, 400);
+        task("1+".repeat(199) + "1=", -9, 400);
+        task("1+".repeat(199) + "11", -9, 400);
+        task("1+".repeat(199) + "1", -9, 399);
+        task("1+".repeat(199) + "1;", -9, 399);
+        task("1+".repeat(199) + "1)", -9, 399);
+        task("1+".repeat(199) + "++", -9, 398);
+        task("1+".repeat(199) + "1 ", -9, 400);
+        task("1=1;".repeat(12) + " ".repeat(352), 0, -1);
+        task("1=1;".repeat(12) + " ".repeat(351) + "1", -7, 399);
+        task("1=1" + " ".repeat(397), -9, 400);
+        task("1=1" + " ".repeat(396) + ";", 0, -1);
+        task("1=1;1=1" + "+1".repeat(196) + ";", 0, -1);
+        task(" ".repeat(400), -9, 400);
+        task("0".repeat(400), -9, 400);
+        task("9".repeat(400), -8, 0);
+        task("a".repeat(400), -9, 0);
+        way(" ".repeat(400), -9, 400);
+        way("end;".repeat(24) + " ".repeat(304), 0, -1);
+        way("end;".repeat(24) + " ".repeat(301) + "end", -7, 397);
+        way("end;".repeat(100), -7, 96);
+        way("say " + "0".repeat(396), -9, 400);
+        way("say " + "0".repeat(394) + "3;", 0, -1);
+        way("put 0;".repeat(23) + "end" + " ".repeat(259), -9, 400);
+        valley(" ".repeat(400), 0, -1);
+        valley("mind " + "0".repeat(395), -8, 5);
+        valley("words" + "0".repeat(395), -9, 400);
+        valley("pairs;moves" + " ".repeat(389), -9, 400);
+        NothingAboveThree x = new NothingAboveThree();
+        Check.due(0, "a task of 400 bytes", () -> Check.task(x, "1+".repeat(197) + "1=198;"));
+        Check.due(1, "another one", () -> Check.task(x, "1+".repeat(197) + "1=197;"));
+        Check.way(x, "end;");
+        Check.due(true, "it is worked to its end", () -> x.holds(0, 0));
+        Check.due(false, "so is the other one", () -> x.holds(0, 1));
     }
 
     private static void fullShelves() {
