@@ -10,6 +10,7 @@ public final class TextTest {
         tasks();
         taskFaults();
         fullTapes();
+        deepest();
         fullShelves();
         oneFullShelf();
         acts();
@@ -321,6 +322,23 @@ public final class TextTest {
         Check.way(x, "end;");
         Check.due(true, "it is worked to its end", () -> x.holds(0, 0));
         Check.due(false, "so is the other one", () -> x.holds(0, 1));
+    }
+
+    /** Six open, with as much waiting round each as can be: nothing of it may be lost. */
+    private static void deepest() {
+        for (int squares = 0; squares <= 6; squares++) {
+            int rounds = 6 - squares;
+            String begun = "0=1 or 1=1 and [".repeat(squares) + "0=1 or 1=1 and 3>1+1*"
+                    + "(0+1*".repeat(rounds);
+            String ended = ")".repeat(rounds) + "]".repeat(squares) + ";";
+            NothingAboveThree x = new NothingAboveThree();
+            Check.due(0, "a deep task", () -> Check.task(x, begun + "1" + ended));
+            Check.due(1, "another one", () -> Check.task(x, begun + "2" + ended));
+            Check.way(x, "end;");
+            Check.due(true, "holds: " + begun + "1" + ended, () -> x.holds(0, 0));
+            Check.due(false, "holds: " + begun + "2" + ended, () -> x.holds(0, 1));
+            task(begun + "1+(", -7, begun.length() + 2);
+        }
     }
 
     private static void fullShelves() {
