@@ -7,6 +7,10 @@ final class Check {
     static final String ARGUMENT = "IllegalArgumentException";
     static final String STATE = "IllegalStateException";
 
+    private static final int CALLS = 512;
+
+    private static NothingAboveThree asked = new NothingAboveThree();
+    private static int calls = 0;
     private static int wrong = 0;
     private static int seen = 0;
 
@@ -66,6 +70,16 @@ final class Check {
         NothingAboveThree x = new NothingAboveThree();
         valley(x, valley);
         return x;
+    }
+
+    /** An object for one call more: a new one, when the last one has had all calls for which one may be used. */
+    static NothingAboveThree fresh() {
+        if (calls == CALLS) {
+            asked = new NothingAboveThree();
+            calls = 0;
+        }
+        calls++;
+        return asked;
     }
 
     /** The last line of a main method. */

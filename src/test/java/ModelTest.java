@@ -9,9 +9,14 @@ public final class ModelTest {
     private static final String[] SCRAPS = {" ", ";", "(", ")", "[", "]", "not ", " and ", " or ", "now ", "was ",
         "at ", "said", "1", "99999", "12", "=", "<", "+", "/", "put ", "end;", "x", "heaps ", "", "\u0000", "\u00e9"};
 
+    // an object is used for so many calls, and one text or run that is looked at takes at most so many
+    private static final int CALLS = 512;
+    private static final int DEAREST = 30;
+
     private final Random random;
     private final NothingAboveThree x = new NothingAboveThree();
     private final Model model = new Model();
+    private int calls;
 
     private ModelTest(long seed) {
         random = new Random(seed);
@@ -24,7 +29,7 @@ public final class ModelTest {
             if (seed % 5 != 0) {
                 test.settle();
             }
-            for (int i = 0; i < 120; i++) {
+            while (test.calls < CALLS - DEAREST) {
                 test.call();
             }
             new ModelTest(seed).packed();
@@ -62,6 +67,7 @@ public final class ModelTest {
     }
 
     private void same(String what, Supplier<?> ours, Supplier<?> models) {
+        calls++;
         Check.due(Check.answer(models), what, ours);
     }
 
@@ -228,6 +234,7 @@ public final class ModelTest {
     }
 
     private void call() {
+        calls += 2;
         int a = below(8) == 0 ? near(0, 5) : below(Math.max(1, x.count(0)));
         int b = below(8) == 0 ? near(0, 5) : below(Math.max(1, x.count(1)));
         int k = below(3) == 0 ? near(0, 24) : below(6);

@@ -20,7 +20,6 @@ public final class NumberTest {
     }
 
     private static void digits() {
-        NothingAboveThree x = new NothingAboveThree();
         int most = 0;
         for (int n = 0; n <= 5000; n++) {
             String digits = Integer.toString(n, 4);
@@ -28,21 +27,21 @@ public final class NumberTest {
             most = Math.max(most, sum);
             int number = n;
             int greatest = most;
-            Check.due(digits.length(), "places " + n, () -> x.places(number));
-            Check.due(sum, "pebbles " + n, () -> x.pebbles(number));
-            Check.due(greatest, "fewest " + n, () -> x.fewest(number));
+            Check.due(digits.length(), "places " + n, () -> Check.fresh().places(number));
+            Check.due(sum, "pebbles " + n, () -> Check.fresh().pebbles(number));
+            Check.due(greatest, "fewest " + n, () -> Check.fresh().fewest(number));
         }
-        Check.due(16, "places", () -> x.places(Integer.MAX_VALUE));
-        Check.due(15, "places", () -> x.places(1073741823));
-        Check.due(16, "places", () -> x.places(1073741824));
-        Check.due(46, "pebbles", () -> x.pebbles(Integer.MAX_VALUE));
-        Check.due(46, "fewest", () -> x.fewest(Integer.MAX_VALUE));
-        Check.due(45, "fewest", () -> x.fewest(1073741824));
-        Check.due(1, "pebbles", () -> x.pebbles(1073741824));
+        Check.due(16, "places", () -> Check.fresh().places(Integer.MAX_VALUE));
+        Check.due(15, "places", () -> Check.fresh().places(1073741823));
+        Check.due(16, "places", () -> Check.fresh().places(1073741824));
+        Check.due(46, "pebbles", () -> Check.fresh().pebbles(Integer.MAX_VALUE));
+        Check.due(46, "fewest", () -> Check.fresh().fewest(Integer.MAX_VALUE));
+        Check.due(45, "fewest", () -> Check.fresh().fewest(1073741824));
+        Check.due(1, "pebbles", () -> Check.fresh().pebbles(1073741824));
         for (int n : new int[] {-1, Integer.MIN_VALUE}) {
-            Check.due(Check.ARGUMENT, "places", () -> x.places(n));
-            Check.due(Check.ARGUMENT, "pebbles", () -> x.pebbles(n));
-            Check.due(Check.ARGUMENT, "fewest", () -> x.fewest(n));
+            Check.due(Check.ARGUMENT, "places", () -> Check.fresh().places(n));
+            Check.due(Check.ARGUMENT, "pebbles", () -> Check.fresh().pebbles(n));
+            Check.due(Check.ARGUMENT, "fewest", () -> Check.fresh().fewest(n));
         }
     }
 
@@ -51,7 +50,6 @@ public final class NumberTest {
     }
 
     private static void told() {
-        NothingAboveThree x = new NothingAboveThree();
         List<Integer> numbers = new ArrayList<>();
         for (int n = 0; n <= 300; n++) {
             numbers.add(n);
@@ -64,24 +62,24 @@ public final class NumberTest {
                 int by = w;
                 int want = telling(n, w);
                 int less = want - telling(n, w + 1);
-                Check.due(want, "tell " + n + " " + w, () -> x.tell(n, by));
-                Check.due(less, "word " + n + " " + w, () -> x.word(n, by));
-                Check.due(7 * want - 7 * 3, "stranger " + n, () -> x.stranger(n, by, 7, 3));
+                Check.due(want, "tell " + n + " " + w, () -> Check.fresh().tell(n, by));
+                Check.due(less, "word " + n + " " + w, () -> Check.fresh().word(n, by));
+                Check.due(7 * want - 7 * 3, "stranger " + n, () -> Check.fresh().stranger(n, by, 7, 3));
             }
         }
-        Check.due(99 * 31, "stranger", () -> x.stranger(Integer.MAX_VALUE, 1, 99, 0));
-        Check.due(-99 * 99, "stranger", () -> x.stranger(0, 1, 99, 99));
-        Check.due(0, "stranger", () -> x.stranger(5, 1, 0, 99));
+        Check.due(99 * 31, "stranger", () -> Check.fresh().stranger(Integer.MAX_VALUE, 1, 99, 0));
+        Check.due(-99 * 99, "stranger", () -> Check.fresh().stranger(0, 1, 99, 99));
+        Check.due(0, "stranger", () -> Check.fresh().stranger(5, 1, 0, 99));
         int[][] wrong = {{-1, 1}, {5, 0}, {5, 10}, {5, -1}};
         for (int[] w : wrong) {
-            Check.due(Check.ARGUMENT, "tell", () -> x.tell(w[0], w[1]));
-            Check.due(Check.ARGUMENT, "word", () -> x.word(w[0], w[1]));
-            Check.due(Check.ARGUMENT, "stranger", () -> x.stranger(w[0], w[1], 1, 1));
+            Check.due(Check.ARGUMENT, "tell", () -> Check.fresh().tell(w[0], w[1]));
+            Check.due(Check.ARGUMENT, "word", () -> Check.fresh().word(w[0], w[1]));
+            Check.due(Check.ARGUMENT, "stranger", () -> Check.fresh().stranger(w[0], w[1], 1, 1));
         }
-        Check.due(Check.ARGUMENT, "k", () -> x.stranger(5, 1, 100, 1));
-        Check.due(Check.ARGUMENT, "k", () -> x.stranger(5, 1, -1, 1));
-        Check.due(Check.ARGUMENT, "c", () -> x.stranger(5, 1, 1, 100));
-        Check.due(Check.ARGUMENT, "c", () -> x.stranger(5, 1, 1, -1));
+        Check.due(Check.ARGUMENT, "k", () -> Check.fresh().stranger(5, 1, 100, 1));
+        Check.due(Check.ARGUMENT, "k", () -> Check.fresh().stranger(5, 1, -1, 1));
+        Check.due(Check.ARGUMENT, "c", () -> Check.fresh().stranger(5, 1, 1, 100));
+        Check.due(Check.ARGUMENT, "c", () -> Check.fresh().stranger(5, 1, 1, -1));
     }
 
     private static void mind(String row, int few, int t) {
@@ -149,7 +147,6 @@ public final class NumberTest {
     }
 
     private static void wholes() {
-        NothingAboveThree x = new NothingAboveThree();
         for (int word = 1; word <= 255; word++) {
             String banned = Integer.toString(word, 4);
             int count = 0;
@@ -158,22 +155,21 @@ public final class NumberTest {
                 int number = n;
                 int by = word;
                 int want = count;
-                Check.due(want, "whole " + n + " " + word, () -> x.whole(number, by));
+                Check.due(want, "whole " + n + " " + word, () -> Check.fresh().whole(number, by));
             }
         }
-        Check.due(Check.ARGUMENT, "n", () -> x.whole(-1, 1));
-        Check.due(Check.ARGUMENT, "n", () -> x.whole(BILLION + 1, 1));
-        Check.due(Check.ARGUMENT, "word", () -> x.whole(1, 0));
-        Check.due(Check.ARGUMENT, "word", () -> x.whole(1, 256));
-        Check.due(Check.ARGUMENT, "word", () -> x.whole(1, -1));
+        Check.due(Check.ARGUMENT, "n", () -> Check.fresh().whole(-1, 1));
+        Check.due(Check.ARGUMENT, "n", () -> Check.fresh().whole(BILLION + 1, 1));
+        Check.due(Check.ARGUMENT, "word", () -> Check.fresh().whole(1, 0));
+        Check.due(Check.ARGUMENT, "word", () -> Check.fresh().whole(1, 256));
+        Check.due(Check.ARGUMENT, "word", () -> Check.fresh().whole(1, -1));
     }
 
     /** Up to 4 to the power of d, less one: by counting rows of d digits without the word. */
     private static void greatWholes() {
-        NothingAboveThree x = new NothingAboveThree();
         // no digit 1: three choices for each of 14 digits
-        Check.due(4782969, "without 1", () -> x.whole(268435455, 1));
-        Check.due(4782969, "without 3", () -> x.whole(268435455, 3));
+        Check.due(4782969, "without 1", () -> Check.fresh().whole(268435455, 1));
+        Check.due(4782969, "without 3", () -> Check.fresh().whole(268435455, 3));
         // the rows without 11: r(d) = 3 (r(d - 1) + r(d - 2))
         long before = 1;
         long rows = 4;
@@ -183,7 +179,7 @@ public final class NumberTest {
             rows = next;
             int n = (1 << 2 * d) - 1;
             long want = rows;
-            Check.due(want, "without 11 to " + n, () -> x.whole(n, 5));
+            Check.due(want, "without 11 to " + n, () -> Check.fresh().whole(n, 5));
         }
         // the rows without 10: r(d) = 4 r(d - 1) - r(d - 2)
         before = 1;
@@ -194,7 +190,7 @@ public final class NumberTest {
             rows = next;
             int n = (1 << 2 * d) - 1;
             long want = rows;
-            Check.due(want, "without 10 to " + n, () -> x.whole(n, 4));
+            Check.due(want, "without 10 to " + n, () -> Check.fresh().whole(n, 4));
         }
         for (int word : new int[] {1, 4, 27, 64, 170, 255}) {
             String banned = Integer.toString(word, 4);
@@ -206,7 +202,7 @@ public final class NumberTest {
                     step += Integer.toString(k, 4).contains(banned) ? 0 : 1;
                 }
                 int want = step;
-                Check.due(want, "whole of seven to " + n, () -> x.whole(above, word) - x.whole(above - 7, word));
+                Check.due(want, "whole of seven to " + n, () -> Check.fresh().whole(above, word) - Check.fresh().whole(above - 7, word));
             }
         }
     }

@@ -64,22 +64,35 @@ public final class TableTest {
     private static void sharedByChance() {
         Random random = new Random(3);
         for (int round = 0; round < 80; round++) {
-            NothingAboveThree x = new NothingAboveThree();
             int top = round % 2 == 0 ? 4 : 100;
             int[][] worth = new int[4][6];
             for (int f = 0; f < 6; f++) {
                 for (int b = 0; b < 4; b++) {
                     worth[b][f] = random.nextInt(top);
-                    x.field(f, b, worth[b][f]);
                 }
             }
             int fields = 1 + random.nextInt(6);
             int brothers = 1 + random.nextInt(4);
-            againstAll(x, worth, fields, brothers);
+            againstAll(worth, fields, brothers);
         }
     }
 
-    private static void againstAll(NothingAboveThree x, int[][] worth, int fields, int brothers) {
+    private static NothingAboveThree withWorth(int[][] worth) {
+        NothingAboveThree x = new NothingAboveThree();
+        for (int f = 0; f < 6; f++) {
+            for (int b = 0; b < 4; b++) {
+                x.field(f, b, worth[b][f]);
+            }
+        }
+        return x;
+    }
+
+    private static void againstAll(int[][] worth, int fields, int brothers) {
+        // of the 512 calls of each the first 24 tell what the FIELDS are worth
+        NothingAboveThree[] turns = new NothingAboveThree[11];
+        for (int i = 0; i < turns.length; i++) {
+            turns[i] = withWorth(worth);
+        }
         int best = -1;
         int bestWorth = -1;
         int fair = 0;
@@ -90,6 +103,7 @@ public final class TableTest {
                 digits.insert(0, '0');
             }
             int sharing = s;
+            NothingAboveThree x = turns[s / 400];
             if (digits.chars().anyMatch(c -> c - '0' >= brothers)) {
                 Check.due(Check.ARGUMENT, "no such brother in " + s, () -> x.envy(fields, brothers, sharing));
                 continue;
@@ -128,6 +142,7 @@ public final class TableTest {
             }
         }
         int[] want = {best, bestWorth, fair, even};
+        NothingAboveThree x = turns[0];
         Check.due(want[0], "share", () -> x.share(fields, brothers, 0));
         Check.due(want[1], "worth", () -> x.share(fields, brothers, 1));
         Check.due(want[2], "how many", () -> x.share(fields, brothers, 2));
