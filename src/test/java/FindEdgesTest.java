@@ -146,6 +146,11 @@ public final class FindEdgesTest {
             Twins.still(want, "promise 20: rivals of " + most, x, y -> found(y, 0, 1, 1, 1, so));
             Twins.still(want, "promise 20: of its length, of " + most, x, y -> found(y, 0, 1, 1, 3, so));
         }
+        // of two HEAPS: put 0, take 0, put 1, take 1, six empty, three go, say 0, end: 15 ACTS for two, 12 for one
+        Supplier<NothingAboveThree> two = with("heaps 2;words 0;", "now 0=was 0+1;now 1=was 1+1;");
+        Twins.still("2 15 2 0 2 -1", "promise 20: put 0 and put 1 either way round", two, y -> found(y, 0, 2, 1, 2, 20000));
+        Twins.still("2 15 1 0 2 -1", "promise 20: of all but it", two, y -> found(y, 0, 2, 1, 2, 12 + 30));
+        Twins.still("2 15 2 0 2 -1", "promise 20: just it", two, y -> found(y, 0, 2, 1, 2, 12 + 31));
         Twins.still("-1 3 -1 -1 -1 -1", "promise 20: none of 3", x, y -> found(y, 0, 1, 1, 3, 3));
         // put, empty 0 1, go 1, say 0, say 1, end; take FAILS of an empty HEAP, empty 0 0 and go 0 go round
         Twins.still("1 1 6 0 -1 -1", "promise 20: of an empty HEAP", x, y -> found(y, 1, 1, 0, 1, 20000));

@@ -16,6 +16,7 @@ public final class RunEdgesTest {
         heapEmpty();
         placeEdges();
         jumpEdges();
+        lastOfAll();
         ends();
         rowAndLeft();
         noLatestRun();
@@ -23,6 +24,9 @@ public final class RunEdgesTest {
         holds();
         holdsByActs();
         values();
+        lastValues();
+        signs();
+        sixThere();
         Check.end();
     }
 
@@ -195,6 +199,27 @@ public final class RunEdgesTest {
         ran("0 1 0 9 : 0 0 0 : 0 0", "end;put 0;", 9);
     }
 
+    /** The last HEAP of 12 and the last PLACE of 24 are as all others in each ACT. */
+    private static void lastOfAll() {
+        String[] ways = {"put 11;", "take 11;", "move 11 0;", "move 0 11;", "pair 11 0;", "pair 0 11;",
+            "empty 11 2;put 11;", "take 11;empty 11 3;put 0;", "up 23;", "down 23;", "none 23 2;up 23;",
+            "down 23;none 23 3;put 0;", "three 23 2;up 23;", "up 23;three 23 2;", "up 23;up 23;three 23 4;put 0;"};
+        String[] want = {"0 5 2 1", "0 5 0 1", "0 6 0 1", "0 4 2 1", "0 4 0 1", "0 4 0 1", "0 5 2 1", "0 5 0 1",
+            "0 5 1 2", "0 5 1 0", "0 5 1 2", "0 5 1 0", "0 5 1 2", "0 5 1 2", "0 5 1 3"};
+        for (int i = 0; i < ways.length; i++) {
+            NothingAboveThree x = Check.in("heaps 12;places 24;pairs;moves;");
+            x.heap(0, 5);
+            x.heap(11, 1);
+            x.place(23, 1);
+            Check.way(x, ways[i]);
+            Check.due(want[i], "promise 12: " + ways[i],
+                    () -> x.run(0, 9) + " " + x.row(0) + " " + x.row(11) + " " + x.left(23));
+            Check.due(1, "promise 16: " + ways[i], () -> x.on());
+            Check.due(want[i].substring(2), "promise 16: what it left",
+                    () -> x.heap(0, 0) + " " + x.heap(11, 0) + " " + x.place(23, 0));
+        }
+    }
+
     private static NothingAboveThree ran(String way, int... flock) {
         NothingAboveThree x = with(way, flock);
         x.run(0, 3);
@@ -362,5 +387,80 @@ public final class RunEdgesTest {
         isTrue("not 2<2;");
         isTrue("2>1;");
         isTrue("not 2>2;");
+    }
+
+    /** Each HEAP and PLACE by its own number, up to was 11, now 11 and at 23. */
+    private static void lastValues() {
+        for (int which = 0; which < 24; which++) {
+            NothingAboveThree x = Check.in("heaps 12;places 24;");
+            x.place(which, 2);
+            if (which < 12) {
+                x.heap(which, 7);
+            }
+            Check.way(x, which < 12 ? "take " + which + ";up " + which + ";" : "up " + which + ";");
+            Check.task(x, "at " + which + "=3;");
+            Check.due(true, "promise 17: at " + which, () -> x.holds(0, 0));
+            if (which < 12) {
+                Check.task(x, "was " + which + "=7 and now " + which + "=6;");
+                Check.due(true, "promise 17: was and now " + which, () -> x.holds(0, 1));
+            }
+        }
+    }
+
+    /** Each sign beside each other one: * and / bind closest, then + and -, then R, not, and, or. */
+    private static void signs() {
+        isTrue("2<1+2;");
+        isTrue("3>5-3;");
+        isTrue("3=1+2;");
+        isTrue("1+2<4;");
+        isTrue("1<2*1;");
+        isTrue("7-2-1=4;");
+        isTrue("7-2+1=6;");
+        isTrue("8/2/2=2;");
+        isTrue("8/2*2=8;");
+        isTrue("2*3/4=1;");
+        isTrue("1+2*3=7;");
+        isTrue("7-2*3=1;");
+        isTrue("7-4/2=5;");
+        isTrue("(7-4)/2=1;");
+        isTrue("7-(4-2)=5;");
+        isTrue("1=2 or 2=2;");
+        isTrue("2=2 or 1=2;");
+        isTrue("2=2 or 1=1 and 1=2;");
+        isTrue("1=2 and 1=1 or 2=2;");
+        isTrue("1=1 and not 1=2;");
+        isTrue("1=1 and 2=2 and not not 3=3;");
+        isTrue("not 1=2 and 1=1;");
+        isTrue("not 1=2 or 1=2;");
+        isTrue("not [1=2 or 1=2];");
+        isTrue("[1=1 or 1=1] and [1=2 or 1=1];");
+        for (String task : new String[] {"not 1<2;", "not 2>1;", "not 1=1;", "not 0<1;", "not 1>0;", "not 0=0;",
+            "not 1=1 and 1=1;", "1=1 and 1=2;", "1=2 or 1=2;", "[2=2 or 1=1] and 1=2;", "1=1;1=2;1=1;", "1=2;1=1;"}) {
+            held(false, "end;", task);
+        }
+    }
+
+    /** "No such WAY", "no such TASK" with 6 of each there: the last is 5. */
+    private static void sixThere() {
+        Supplier<NothingAboveThree> six = () -> {
+            NothingAboveThree x = new NothingAboveThree();
+            for (int i = 0; i < 6; i++) {
+                Check.way(x, "put 0;");
+                Check.task(x, "now 0=" + i + ";");
+            }
+            x.heap(0, 4);
+            return x;
+        };
+        Twins.still(true, "promise 17: the sixth of each", six, x -> x.holds(5, 5));
+        Twins.taken(0, "promise 12: the sixth", six, x -> x.run(5, 1));
+        Twins.still(-1, "promise 9: the sixth", six, x -> x.judge(5));
+        Twins.refused(Check.INDEX, "promise 17: a seventh WAY", six, x -> x.holds(6, 5));
+        Twins.refused(Check.ELEMENT, "promise 17: a seventh TASK", six, x -> x.holds(5, 6));
+        Twins.refused(Check.INDEX, "promise 12: a seventh", six, x -> x.run(6, 1));
+        Twins.refused(Check.INDEX, "promise 9: a seventh", six, x -> x.judge(6));
+        Twins.refused(Check.ELEMENT, "promise 18: a seventh TASK", six, x -> x.right(5, 6, 1, 1));
+        Twins.refused(Check.ELEMENT, "promise 20: a seventh TASK", six, x -> x.find(6, 1, 1, 1, 1, 0));
+        Twins.refused(Check.ELEMENT, "promise 24: a seventh TASK", six, x -> x.cheat(5, 6, 0, 0));
+        Twins.refused(Check.ELEMENT, "promise 40: a seventh TASK", six, x -> x.kept(5, 6, 0, 1, 1));
     }
 }

@@ -18,6 +18,7 @@ public final class TextEdgesTest {
         taskLength();
         taskOpen();
         taskStays();
+        nothingLeft();
         six();
         fault();
         blanks();
@@ -358,6 +359,29 @@ public final class TextEdgesTest {
         }
         Twins.taken(2, "promise 5: its number, from 0 on", TextEdgesTest::emptied, x -> Check.task(x, "1=1;"));
         Twins.taken(0, "promise 5: its number, from 0 on", NothingAboveThree::new, x -> Check.task(x, "1=1;"));
+    }
+
+    /** A text with a FAULT leaves nothing of itself to the next one. */
+    private static void nothingLeft() {
+        String[] faulty = {"((((((1", "[[[[[[1=1", "not not not not not not 1=1", "1=1 or 1=2 and not [1+2*", "1<1 and 2",
+            "1=1;".repeat(12) + "1", "1=2;(1+1)*"};
+        for (String text : faulty) {
+            NothingAboveThree x = new NothingAboveThree();
+            Check.due(true, "promise 5: a FAULT of " + text, () -> Check.task(x, text) < -5);
+            Check.due(0, "promise 5: behind " + text, () -> Check.task(x, "((((((1))))))=1 and not [not [[[1=2]]]];"));
+            Check.due(1, "promise 5: behind " + text, () -> Check.task(x, "1<1+1;".repeat(12)));
+            Check.way(x, "end;");
+            Check.due(false, "promise 17: behind " + text, () -> x.holds(0, 0));
+            Check.due(true, "promise 17: behind " + text, () -> x.holds(0, 1));
+        }
+        NothingAboveThree x = new NothingAboveThree();
+        Check.way(x, "put 1;".repeat(23) + "put");
+        Check.due(0, "promise 4: behind a FAULT", () -> Check.way(x, "take 1;end;"));
+        Check.due(1, "promise 8: the first ACT is its own", () -> x.act(0, 0, 0));
+        Check.due(Check.ELEMENT, "promise 8: of two", () -> x.act(0, 2, 0));
+        Check.valley(x, "heaps 9;places 9;pairs;moves");
+        Check.due(1, "promise 3: behind a FAULT", () -> Check.valley(x, "pairs;"));
+        Check.due("2 0 1 0", "promise 3: without", () -> x.told(0) + " " + x.told(1) + " " + x.told(4) + " " + x.told(5));
     }
 
     /** An object with so many WAYS and TASKS. */

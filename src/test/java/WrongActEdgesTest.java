@@ -156,6 +156,10 @@ public final class WrongActEdgesTest {
         Twins.taken(1997, "promise 25: 1,001 puts", full, x -> x.soon(0, 0, 1));
         Twins.taken(1, "promise 25: the second last twice", full, x -> x.soon(0, 1996, 1));
         Twins.taken(0, "promise 25: the last twice", full, x -> x.soon(0, 1998, 1));
+        // the 2,000th ACT is the 1,000th put: twice it FAILS there, though no ACT more is due
+        Supplier<NothingAboveThree> lastPut = with("go 1;put 0;go 1;", task, 1000000000 - 1000);
+        Twins.taken(0, "promise 25: the 2,000th twice", lastPut, x -> x.soon(0, 1999, 1));
+        Twins.taken(-1, "promise 25: the 2,000th left out", lastPut, x -> x.soon(0, 1999, 0));
         // 1,001 puts fill it: the ACT that would FAIL is the 2,001st
         Supplier<NothingAboveThree> nearly = with("put 0;go 0;", task, 1000000000 - 1001);
         Twins.taken(-1, "promise 25: behind 2,000 ACTS", nearly, x -> x.soon(0, 0, 1));
